@@ -27,6 +27,8 @@ public final class RainOwed {
     private static final int CAN_HOLDS = 2;
     private static final int FAR_AHEAD = 60;
     private static final int MOST_AHEAD = 30;
+    private static final int MOST_YEARS = 60;
+    private static final int MOST_SHARED = 999;
     private static final int MILLION = 1000000;
     private static final long DRAW_TIMES = 6364136223846793005L;
     private static final long DRAW_MORE = 1442695040888963407L;
@@ -199,11 +201,11 @@ public final class RainOwed {
     }
 
     public int shares(int field, int c) {
-        if (!land.has(field) || c < 0 || c > 999) {
+        if (!land.has(field) || c < 0 || c > MOST_SHARED) {
             return NONE;
         }
-        int together = land.sum(land.owed);
-        return together == 0 ? 0 : c * land.owed[field] / together;
+        int owedToAll = land.sum(land.owed);
+        return owedToAll == 0 ? 0 : c * land.owed[field] / owedToAll;
     }
 
     public int buyers(int n) {
@@ -293,7 +295,7 @@ public final class RainOwed {
     }
 
     public int years(int n, long seed) {
-        if (land.fields == 0 || n < 1 || n > FAR_AHEAD || land.year + n > LAST_YEAR) {
+        if (land.fields == 0 || n < 1 || n > MOST_YEARS || land.year + n > LAST_YEAR) {
             return NONE;
         }
         long x = seed;
@@ -1053,45 +1055,38 @@ public final class RainOwed {
 
         private final int[] code;
         private final int[] stack = new int[DEEPEST];
-        private int top;
 
         Law(int[] code) {
             this.code = code;
         }
 
         int worth(int[] letters) {
-            top = 0;
+            int top = 0;
             boolean passing = false;
-            for (int i = 0; i < code.length; i++) {
+            for (int i = 0; i < code.length && top < DEEPEST; i++) {
                 int sign = code[i];
                 if (passing) {
                     passing = sign != -';';
                 } else if (sign >= 0) {
-                    push(sign);
+                    stack[top++] = sign;
                 } else if (-sign <= letters.length) {
-                    push(letters[-sign - 1]);
+                    stack[top++] = letters[-sign - 1];
+                } else if (top < 1) {
+                    return 0;
                 } else if (sign == -';') {
-                    return pop();
+                    return stack[top - 1];
                 } else if (sign == -'?') {
-                    passing = pop() == 0;
+                    passing = stack[--top] == 0;
                 } else if (sign == -'!') {
-                    push(1 - pop());
+                    stack[top - 1] = 1 - stack[top - 1];
+                } else if (top < 2) {
+                    return 0;
                 } else {
-                    int right = pop();
-                    push(joined(pop(), -sign, right));
+                    top--;
+                    stack[top - 1] = joined(stack[top - 1], -sign, stack[top]);
                 }
             }
             return 0;
-        }
-
-        private void push(int number) {
-            if (top < DEEPEST) {
-                stack[top++] = number;
-            }
-        }
-
-        private int pop() {
-            return top > 0 ? stack[--top] : 0;
         }
 
         private static int joined(int left, int sign, int right) {
@@ -1168,7 +1163,7 @@ public final class RainOwed {
             while (at < length && bytes[at] == ' ') {
                 at++;
             }
-            return signAt(at);
+            return at < length ? bytes[at] & 255 : OVER;
         }
 
         boolean take(int sign) {
@@ -1200,14 +1195,18 @@ public final class RainOwed {
     /** Reads a plain. Where a reader answers false, the tape stands at the fault. */
     private static final class PlainReader {
         private static final String RULES = "idp";
-        private static final int[] LEAST_RULE = {0, 1, 0};
-        private static final int[] MOST_RULE = {9, 99, 30};
+        private static final int[] LEAST_RULES = {0, 1, 0};
+        private static final int[] MOST_RULES = {9, 99, 30};
+        private static final int[] RULES_WITHOUT = {1, 30, 2};
         private static final String ITEMS = "onwvc";
-        private static final int[] MOST_ITEM = {99, 20, 30, 9, 99};
+        private static final int[] LEAST_ITEMS = {0, 0, 0, 0, 0};
+        private static final int[] MOST_ITEMS = {99, 20, 30, 9, 99};
+        private static final int[] ITEMS_WITHOUT = {0, 6, 5, 3, 20};
 
         private final Tape tape;
-        final Land draft = new Land();
+        private final int[] told = new int[ITEMS_WITHOUT.length];
         private boolean ruled;
+        final Land draft = new Land();
 
         PlainReader(Tape tape) {
             this.tape = tape;
@@ -1217,10 +1216,9 @@ public final class RainOwed {
             tape.at = 0;
             ruled = false;
             draft.fields = 0;
-            draft.interest = 1;
-            draft.drown = 30;
-            draft.price = 2;
             draft.year = 0;
+            setWithout(RULES_WITHOUT);
+            takeRules();
             for (int k = 0; k <= MOST_BYTES; k++) {
                 if (!readClause()) {
                     return false;
@@ -1240,84 +1238,61 @@ public final class RainOwed {
             if (sign == 's' && !ruled) {
                 tape.at++;
                 ruled = true;
-                return readRules();
+                setWithout(RULES_WITHOUT);
+                boolean isRight = readItems(RULES, LEAST_RULES, MOST_RULES);
+                takeRules();
+                return isRight;
             }
             if (sign == 'f' && draft.fields < MOST_FIELDS) {
                 tape.at++;
-                draft.fields++;
-                return readItems(draft.fields - 1);
+                setWithout(ITEMS_WITHOUT);
+                boolean isRight = readItems(ITEMS, LEAST_ITEMS, MOST_ITEMS);
+                takeField();
+                return isRight;
             }
             return false;
         }
 
-        private boolean readRules() {
+        private void setWithout(int[] without) {
+            System.arraycopy(without, 0, told, 0, Math.min(without.length, told.length));
+        }
+
+        private void takeRules() {
+            draft.interest = told[0];
+            draft.drown = told[1];
+            draft.price = told[2];
+        }
+
+        private void takeField() {
+            draft.owed[draft.fields] = told[0];
+            draft.needs[draft.fields] = told[1];
+            draft.water[draft.fields] = told[2];
+            draft.value[draft.fields] = told[3];
+            draft.coins[draft.fields] = told[4];
+            draft.fields++;
+        }
+
+        private boolean readItems(String letters, int[] least, int[] most) {
             int seen = 0;
-            for (int k = 0; k <= RULES.length(); k++) {
-                int letter = RULES.indexOf((char) tape.next());
+            for (int k = 0; k <= letters.length(); k++) {
+                int sign = tape.next();
+                int letter = letters.indexOf((char) sign);
                 if (letter < 0 || (seen >> letter & 1) == 1) {
-                    return isClauseOver();
+                    return sign == ';' || sign == Tape.OVER;
                 }
                 seen |= 1 << letter;
                 tape.at++;
-                int number = readWithin(LEAST_RULE[letter], MOST_RULE[letter]);
-                if (number == NONE) {
+                told[letter] = tape.number(2);
+                if (told[letter] == NONE) {
                     return false;
                 }
-                switch (letter) {
-                    case 0: draft.interest = number; break;
-                    case 1: draft.drown = number; break;
-                    default: draft.price = number; break;
+                if (told[letter] < least[letter] || told[letter] > most[letter]) {
+                    // a number out of bounds is wrong at its last digit, which is read already
+                    tape.at--;
+                    return false;
                 }
             }
             return false;
-        }
-
-        private boolean readItems(int f) {
-            draft.owed[f] = 0;
-            draft.needs[f] = 6;
-            draft.water[f] = 5;
-            draft.value[f] = 3;
-            draft.coins[f] = 20;
-            int seen = 0;
-            for (int k = 0; k <= ITEMS.length(); k++) {
-                int letter = ITEMS.indexOf((char) tape.next());
-                if (letter < 0 || (seen >> letter & 1) == 1) {
-                    return isClauseOver();
-                }
-                seen |= 1 << letter;
-                tape.at++;
-                int number = readWithin(0, MOST_ITEM[letter]);
-                if (number == NONE) {
-                    return false;
-                }
-                rowOf(letter)[f] = number;
-            }
-            return false;
-        }
-
-        private int[] rowOf(int letter) {
-            switch (letter) {
-                case 0: return draft.owed;
-                case 1: return draft.needs;
-                case 2: return draft.water;
-                case 3: return draft.value;
-                default: return draft.coins;
-            }
-        }
-
-        private boolean isClauseOver() {
-            int sign = tape.next();
-            return sign == ';' || sign == Tape.OVER;
-        }
-
-        /** A number out of bounds is wrong at its last digit: the tape goes back to it. */
-        private int readWithin(int low, int high) {
-            int number = tape.number(2);
-            if (number != NONE && (number < low || number > high)) {
-                tape.at--;
-                return NONE;
-            }
-            return number;
         }
     }
 
