@@ -63,6 +63,12 @@ final class Checks {
         return x;
     }
 
+    static RainOwed withLaw(String plain, String law) {
+        RainOwed x = plain(plain);
+        law(x, law);
+        return x;
+    }
+
     /** A law is told and holds. */
     static int law(RainOwed x, String text) {
         int number = tell(x, text).text(1);

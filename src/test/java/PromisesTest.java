@@ -69,6 +69,12 @@ public final class PromisesTest {
         c.due("3 last", true, x.end(239));
         c.due("2 two are too many", NONE, x.feed(0, 0, 0, 0, 0x101));
         c.due("2 one fits", 240, x.feed(0, 0, 1, 0, 0));
+        for (int k = 0; k < 5; k++) {
+            x.end(239);
+            c.due("2 wherever they stand", NONE, x.feed(k == 0 ? 0x1010000 : 0, k == 1 ? 0x10100 : 0,
+                k == 2 ? 0x101 : 0, k == 3 ? 0x1000001 : 0, k == 4 ? 0x1000100 : 0));
+        }
+        c.due("2 one fits", 240, x.feed(0, 0, 0, 0, 0x10000));
         c.due("3 all of it", true, x.end(240));
         c.due("3 beyond", false, x.end(241));
         c.due("3 below", false, x.end(-1));
@@ -177,6 +183,10 @@ public final class PromisesTest {
         c.due("5 no such sort", NONE, x.text(3));
         c.due("5 no such sort", NONE, x.text(-1));
         c.due("5 fields", 2, x.text(0));
+        Checks.tell(x, "y11");
+        c.due("5 no such sort", NONE, x.text(3));
+        c.due("5 no such sort", NONE, x.text(-1));
+        x.end(0);
         c.due("5 the tape is empty", 0, x.count(3));
         for (int k = 0; k < 4; k++) {
             c.due("5 law", k, Checks.tell(x, "y:1" + k).text(1));
@@ -655,6 +665,8 @@ public final class PromisesTest {
         RainOwed z = Checks.plain("si0d10;f;fo4;fo4");
         Checks.law(z, "y:o=4?10;y:0");
         c.due("25 one alone is too little", NONE, z.least(20, 0));
+        c.due("25 all that is owed", 2, Checks.withLaw("si0d6;fo2;f", "y:o>0?1").least(10, 1));
+        c.due("25 no more than is owed", NONE, Checks.withLaw("si0d6;fo2;f", "y:o<0?0;y:1").least(10, 1));
     }
 
     private static void promises26And27Sales() {
@@ -679,6 +691,8 @@ public final class PromisesTest {
         c.due("27 second", 2, z.trades(3, 1));
         c.due("27 no such", NONE, z.trades(3, 2));
         c.due("27 apart", 0, z.count(10));
+        c.due("27 for nothing no seller has more", 0,
+            Checks.plain("si0d99p0;fo2n0v0c0;fo1n9w0v9c9;fo0n9w0v9c9").trades(3, NONE));
     }
 
     private static void promises28To30Debts() {
@@ -742,6 +756,7 @@ public final class PromisesTest {
         RainOwed y = Checks.plain("si0d7;fo9n9w9v9;fo3n9w9v9");
         c.due("32 one", 1, y.rests(0, 1, 8, NONE));
         c.due("32 the first forgives so as not to drown", 40, y.rests(0, 1, 8, 0));
+        c.due("32 the other way round", 4, y.rests(1, 0, 8, 0));
         c.due("31 apart", 9, y.field(0, 0));
     }
 
@@ -808,6 +823,10 @@ public final class PromisesTest {
         RainOwed y = Checks.plain("si0d99;fo4;fo0");
         Checks.law(y, "y:o>0?1");
         c.due("36 behind four", 4, y.even(0, 21));
+        c.due("36 behind sixty", 60, Checks.withLaw("si0d99;fo60;f", "y:o>0?1").even(0, 21));
+        c.due("36 not behind 61", NONE, Checks.withLaw("si0d99;fo61;f", "y:o>0?1").even(0, 21));
+        c.due("37 behind sixty", 60, Checks.withLaw("si0d21;f;f;f", "y:t=59?1").together(62));
+        c.due("37 not behind 61", NONE, Checks.withLaw("si0d21;f;f;f", "y:t=60?1").together(62));
         RainOwed z = Checks.plain("si9d12;fo4;f;fo4");
         c.due("37 later", first(z, 20), z.together(20));
     }
