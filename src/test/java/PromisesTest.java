@@ -666,7 +666,7 @@ public final class PromisesTest {
         Checks.law(z, "y:o=4?10;y:0");
         c.due("25 one alone is too little", NONE, z.least(20, 0));
         c.due("25 all that is owed", 2, Checks.withLaw("si0d6;fo2;f", "y:o>0?1").least(10, 1));
-        c.due("25 no more than is owed", NONE, Checks.withLaw("si0d6;fo2;f", "y:o<0?0;y:1").least(10, 1));
+        c.due("25 no more than is owed", NONE, Checks.withLaw("si0d6;fo2;fn1", "y:o<0|n=1?0;y:1").least(10, 1));
     }
 
     private static void promises26And27Sales() {
