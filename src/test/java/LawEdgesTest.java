@@ -1,7 +1,7 @@
 /** Edges of promises 4, 5 and 8 for a law, and of what a law is worth (promise 10). */
 public final class LawEdgesTest extends Edges {
     public static void main(String[] args) {
-        run(LawEdgesTest.class, 4, 5);
+        run(LawEdgesTest.class, 4, 5, 8, 10);
     }
 
     private static void fault(String text, int want) {

@@ -1,7 +1,7 @@
 /** Edges of promises 4 and 5 for a plain, and of promises 6 and 7. */
 public final class PlainEdgesTest extends Edges {
     public static void main(String[] args) {
-        run(PlainEdgesTest.class, 4, 7);
+        run(PlainEdgesTest.class, 4, 5, 6, 7);
     }
 
     private static void fault(String text, int want) {

@@ -3,7 +3,7 @@ public final class PlanEdgesTest extends Edges {
     private static final String PLAIN = "si0d12p3;fo10v2;fo5n8w0v1c4;fw30c2";
 
     public static void main(String[] args) {
-        run(PlanEdgesTest.class, 19, 21);
+        run(PlanEdgesTest.class, 4, 5, 19, 20, 21);
     }
 
     private static void fault(String text, int want) {

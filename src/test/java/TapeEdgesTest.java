@@ -3,7 +3,7 @@ import java.nio.charset.StandardCharsets;
 /** Edges of promises 1 to 3: a new object, feed, end. */
 public final class TapeEdgesTest extends Edges {
     public static void main(String[] args) {
-        run(TapeEdgesTest.class, 1, 3);
+        run(TapeEdgesTest.class, 1, 2, 3);
     }
 
     private static RainOwed full(int bytes) {

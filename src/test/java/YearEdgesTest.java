@@ -3,7 +3,7 @@ import java.math.BigInteger;
 /** Edges of promises 9, 10 and 16: heresy, a year, years by draws. */
 public final class YearEdgesTest extends Edges {
     public static void main(String[] args) {
-        run(YearEdgesTest.class, 9, 10);
+        run(YearEdgesTest.class, 9, 10, 16);
     }
 
     static void promise9NoneAtFirst() {
