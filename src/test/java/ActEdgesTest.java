@@ -109,6 +109,14 @@ public final class ActEdgesTest extends Edges {
         }
     }
 
+    static void promise12MistOnAllOfSix() {
+        RainOwed x = plain("f;f;f;f;f;fo9");
+        due("by the last", 0, x.forgive(5, 9));
+        for (int f = 0; f < 6; f++) {
+            due("water", 6, x.field(f, 2));
+        }
+    }
+
     static void promise12AllFullIsNoHindrance() {
         RainOwed x = plain("fo9w30;fw30");
         due("it can be", 8, x.forgive(0, 1));

@@ -64,6 +64,13 @@ public final class AheadEdgesTest extends Edges {
         due("0 at least", 0, withLaw("si0;fo1;f;f", "y:9").ahead(0, 1, 30));
     }
 
+    static void promise35TheSixthOfSix() {
+        RainOwed x = withLaw("si1;f;f;f;f;f;fo90", "y:0");
+        due("90 and nine", 99, x.ahead(5, 1, 0));
+        due("99 and nine", 108, x.ahead(5, 2, 0));
+        due("nothing to the first", 0, x.ahead(0, 30, 0));
+    }
+
     static void promise35GoesOnBehind999() {
         RainOwed x = inYear(withLaw("si0d99;fo40;f", "y:t=1028?50;y:0"), 999);
         field(x, 0, 40);
@@ -274,6 +281,11 @@ public final class AheadEdgesTest extends Edges {
     static void promise42AllOfIt() {
         due("all", 9, plain("si0;f;fo9").forgiven(1));
         due("all", 9, plain("si0;fo9;fo1").forgiven(0));
+    }
+
+    static void promise42TheSixthOfSix() {
+        due("as much as the fifth", 4, plain("si0;f;f;f;f;fo5;fo9").forgiven(5));
+        due("not the first", 0, plain("si0;f;f;f;f;fo9;fo9").forgiven(5));
     }
 
     static void promise42ItWouldStillBe() {

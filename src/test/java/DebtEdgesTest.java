@@ -109,6 +109,15 @@ public final class DebtEdgesTest extends Edges {
         due("none", 0, y.debts(0, NONE));
     }
 
+    static void promise29OnlyWhatFellOnThisFieldCounts() {
+        RainOwed x = plain("si0;f;f;f;f;f;f");
+        x.fell(5, 60, 15, true);
+        for (int f = 0; f < 5; f++) {
+            due("field " + f, 100, x.debts(f, NONE));
+        }
+        due("10 and more", 90, x.debts(5, NONE));
+    }
+
     static void promise29AllThatFellOfItMustBeSo() {
         RainOwed x = plain("si0;f;f;f");
         x.fell(0, 60, 25, true);
@@ -170,6 +179,37 @@ public final class DebtEdgesTest extends Edges {
         due("half yes from 7 to 27", 7, withLaw("si0;f;f;f;f", "y:o>49?9;y:0").ask(0, 7));
     }
 
+    /** The rain to ask for, by letting each debt be owed in a plain of its own. */
+    private static int askedByHand(String head, String item, String tail, int field, int v, int leastDebt) {
+        int[] yes = new int[100];
+        for (int debt = leastDebt; debt <= 99; debt++) {
+            RainOwed x = plain(head + item + "o" + debt + tail);
+            for (int rain = 0; rain <= 99; rain++) {
+                yes[rain] += x.falls(field, rain) >= v ? 1 : 0;
+            }
+        }
+        int best = 0;
+        for (int rain = 1; rain <= 99; rain++) {
+            if (Math.abs(2 * yes[rain] - 100 + leastDebt) < Math.abs(2 * yes[best] - 100 + leastDebt)) {
+                best = rain;
+            }
+        }
+        return best;
+    }
+
+    static void promise30EachDebtAndEachRainCounts() {
+        for (int v = 0; v <= 99; v += 3) {
+            due("for " + v, askedByHand("si1;fo30;", "f", ";fo60", 1, v, 0), plain("si1;fo30;f;fo60").ask(1, v));
+        }
+        RainOwed x = plain("si0;f;fo20;fo70;f");
+        x.fell(0, 60, 25, true);
+        int least = x.debts(0, 0);
+        due("one row of debts", 100 - least, x.debts(0, NONE));
+        for (int v = 1; v <= 99; v += 7) {
+            due("for " + v, askedByHand("si0;", "f", ";fo20;fo70;f", 0, v, least), x.ask(0, v));
+        }
+    }
+
     static void promise30OneDebtAlone() {
         RainOwed x = withLaw("si0;f;f;f", "y:o=10?30;y:0");
         x.fell(0, 60, 25, true);
@@ -220,6 +260,13 @@ public final class DebtEdgesTest extends Edges {
             due("the second", 12 - 5 + n, x.game(0, 1, 0, n, 5 - n, 1));
         }
         due("the other way round", 12 - 2, x.game(1, 0, 0, 2, 1, 0));
+    }
+
+    static void promise31TheLastOfSix() {
+        RainOwed x = withLaw("si0;fo9w6n6v3;f;f;f;f;fo9w6n6v2", "y:0");
+        due("the first of the game", 12 - 4, x.game(5, 0, 0, 4, 1, 0));
+        due("the second of the game", 18 - 1, x.game(5, 0, 0, 4, 1, 1));
+        due("its rest", 0, x.rests(5, 0, 0, 0));
     }
 
     static void promise31NoMoreThanIsOwed() {

@@ -96,6 +96,24 @@ public final class ImageEdgesTest extends Edges {
         due("none", NONE, x.undo());
     }
 
+    static void promise44AllOfTheLogIsSoAgain() {
+        RainOwed x = withLaw("si0d10;f;f", "y:0");
+        due("all drown", 0, x.year(20));
+        due("nobody does", 36, x.year(10));
+        x.image();
+        x.undo();
+        x.undo();
+        x.year(0);
+        x.year(21);
+        due("back", 2, x.back());
+        int[][] log = {{10, 0, 36}, {20, 3, 0}};
+        for (int i = 0; i < 2; i++) {
+            for (int what = 0; what < 3; what++) {
+                due("log " + i, log[i][what], x.log(i, what));
+            }
+        }
+    }
+
     static void promise44ALogThatIsFull() {
         RainOwed x = plain("f;f");
         for (int k = 0; k < 80; k++) {

@@ -161,6 +161,16 @@ public final class LawEdgesTest extends Edges {
         fault("y:[+1]", 3);
     }
 
+    static void promise4SomethingMustStandBehindEachSign() {
+        for (String sign : new String[] {"|", "&", "=", "<", ">", "+", "-", "*", "/"}) {
+            fault("y:1=1" + ("=<>".contains(sign) ? "|1" : "") + sign + "?1", "=<>".contains(sign) ? 8 : 6);
+            fault("y:1" + sign + ";y:1", "|&".contains(sign) ? 3 : 4);
+        }
+        fault("y:!?1", 3);
+        fault("y:(?1", 3);
+        fault("y:[;", 3);
+    }
+
     static void promise4BlanksBetweenAllSigns() {
         fault("  y : ! ( o = 1 & n < 2 ) | w > 3 ? [ 1 + 2 ] * 3 - 4 / 5 ; y : 1234  ", NONE);
         fault("y:12 34", 5);
@@ -338,6 +348,30 @@ public final class LawEdgesTest extends Edges {
         worth("y:(1=1|1=2)&1=2?1;y:2", 2);
         worth("y:!1=1|1=1?1;y:2", 1);
         worth("y:!(1=1|1=1)?1;y:2", 2);
+    }
+
+    static void promise10NotTurnsWhatIsBehindIt() {
+        worth("y:!1=1?1;y:2", 2);
+        worth("y:!1=2?1;y:2", 1);
+        worth("y:!!1=1?1;y:2", 1);
+        worth("y:!!1=2?1;y:2", 2);
+        worth("y:!!!!!!1=1?1;y:2", 1);
+        worth("y:1=1&!1=2?1;y:2", 1);
+        worth("y:1=2|!1=1?1;y:2", 2);
+        worth("y:!1=1&1=2?1;y:2", 2);
+    }
+
+    static void promise10EachLetter() {
+        worth("y:o", 8);
+        worth("y:n", 3);
+        worth("y:w", 7);
+        worth("y:v", 5);
+        worth("y:s", 20);
+        worth("y:t", 0);
+        RainOwed x = after(withLaw("si0d99;f;f;f", "y:t"), 3, 0);
+        due("the year 3", 13, x.falls(0, 30));
+        due("the share of this rain", 20, withLaw("si0d99;f;f;f", "y:s").falls(0, 30));
+        due("what is owed with interest", 29, withLaw("si9d99;fo10;f;f", "y:o").falls(0, 30));
     }
 
     static void promise10ALongLawIsWorkedOut() {

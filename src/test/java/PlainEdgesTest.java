@@ -67,6 +67,25 @@ public final class PlainEdgesTest extends Edges {
         bounds("c", 0, 99, 20, 4);
     }
 
+    static void promise4WhatIsNotToldIsAsWithoutWhateverStandsAhead() {
+        RainOwed x = plain("fo9n9w9v9c9;s;f");
+        int[] rules = {1, 30, 2};
+        for (int what = 0; what < 3; what++) {
+            due("rule " + what, rules[what], x.rule(what));
+        }
+        field(x, 0, 9, 9, 9, 9, 9);
+        field(x, 1, 0, 6, 5, 3, 20);
+        RainOwed y = plain("si9d9p9;f;f");
+        field(y, 0, 0, 6, 5, 3, 20);
+        Checks.tell(y, "f;f").text(0);
+        due("nothing of the plain ahead", 1, y.rule(0));
+        RainOwed z = Checks.tell(new RainOwed(), "si9d9p9;fo9");
+        z.text(0);
+        Checks.tell(z, "f;f").text(0);
+        due("nothing of what was refused", 30, z.rule(1));
+        field(z, 0, 0, 6, 5, 3, 20);
+    }
+
     static void promise4ANumberMayBeginWithZero() {
         fault("si09d01p00;fv09;fo00", NONE);
         fault("fv0;f", NONE);

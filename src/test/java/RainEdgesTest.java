@@ -26,6 +26,13 @@ public final class RainEdgesTest extends Edges {
         due("99", 33, x.falls(2, 99));
     }
 
+    static void promise22TheSixthOfSix() {
+        RainOwed x = withLaw("si0;f;f;f;f;f;fo9", "y:o");
+        due("the share and nine", 19, x.falls(5, 60));
+        due("the fifth has one less of the rest", 1, x.falls(4, 60));
+        due("no seventh", NONE, x.falls(6, 60));
+    }
+
     static void promise22GoesOnIn999() {
         RainOwed x = inYear(withLaw("f;f;f", "y:t=999?3;y:0"), 999);
         due("with the year 999", 13, x.falls(x.turn(0), 30));
@@ -122,6 +129,21 @@ public final class RainEdgesTest extends Edges {
         due("all", 999, x.least(21, 1));
     }
 
+    static void promise25NoMoreThanIsOwed() {
+        least(withLaw("si0d8;fo5n1;f;f", "y:o<0|!n=1?0;y:1"), 21, NONE, NONE);
+    }
+
+    static void promise25TheLastOfSix() {
+        least(withLaw("si0d8;f;f;f;f;f;fo5", "y:o>4?1;y:0"), 43, 5, 1);
+        least(withLaw("si0d8;f;f;f;f;f;fo5", "y:0"), 48, NONE, NONE);
+    }
+
+    static void promise25FieldsThatAreGoneDoNotCount() {
+        RainOwed x = withLaw("f;f;fo9;fo9;fo9;fo9", "y:0");
+        Checks.tell(x, "si0d7;f;f").text(0);
+        least(x, 14, NONE, NONE);
+    }
+
     static void promise25ByNone() {
         least(withLaw("si0d7;fo5;fo5;f", "y:0"), 21, NONE, NONE);
         least(withLaw("si0d8;fo5;fo5;f", "y:o>0?1;y:0"), 21, NONE, NONE);
@@ -180,6 +202,11 @@ public final class RainEdgesTest extends Edges {
         best(plain("fo5v0;fv0"), 10, 11, 0);
     }
 
+    static void promise26TheLastOfSixBuysAndSells() {
+        best(withLaw("si0d99p0;fo9n0;fv0;fv0;fv0;fv0;fn20w0v1", "y:n=20?o;y:0"), 60, 59, 19);
+        best(withLaw("si0d99p0;fn20w0v1;fv0;fv0;fv0;fv0;fo9n0", "y:n=20?o;y:0"), 60, 509, 19);
+    }
+
     static void promise26OfSeveralTheLeast() {
         best(plain("sp0;fo9;fo9;fo9"), 0, 11, 45);
         best(plain("sp0;f;fo9;fo9"), 0, 101, 45);
@@ -223,6 +250,19 @@ public final class RainEdgesTest extends Edges {
             due("trade " + i, trades[i], x.trades(6, i));
         }
         due("apart", 0, x.count(10));
+    }
+
+    static void promise27TheFirstBuysAndTheLastSells() {
+        RainOwed x = withLaw("si0d99p1;fn20w0v9;f;f;f;f;fo1n0v0", "y:o;y:0");
+        due("share 2, and one more for the first", 2, x.falls(0, 12));
+        due("from the last to the first", 50, x.trades(12, 0));
+        due("this one alone", 1, x.trades(12, NONE));
+    }
+
+    static void promise27FieldsThatAreGoneDoNotTrade() {
+        RainOwed x = withLaw("f;f;fo9;fo9;fo9;fo9", "y:o");
+        Checks.tell(x, "si0d99p1;fv0;fv0").text(0);
+        due("none", 0, x.trades(12, NONE));
     }
 
     static void promise27NoneCouldBe() {
@@ -280,6 +320,12 @@ public final class RainEdgesTest extends Edges {
         refused("a above b", Edges::busy, NONE, x -> x.odds(0, 6, 5));
         refused("the least", Edges::busy, NONE, x -> x.odds(0, LEAST_INT, MOST_INT));
         refused("the most", Edges::busy, NONE, x -> x.odds(0, MOST_INT, LEAST_INT));
+    }
+
+    static void promise33TheSixthOfSix() {
+        RainOwed x = withLaw("si0d19;f;f;f;f;f;fo9", "y:o");
+        due("from 60 on", 400000, x.odds(5, 0, 99));
+        due("the others never", 0, x.odds(0, 0, 99));
     }
 
     static void promise33OneRainAlone() {
