@@ -61,6 +61,9 @@ public final class FaceTest {
                 && constructor.getParameterCount() == 0);
         }
         for (Method method : RainOwed.class.getDeclaredMethods()) {
+            String told = Arrays.toString(method.getExceptionTypes());
+            String due = method.getName().equals("field") ? "[class java.util.NoSuchElementException]" : "[]";
+            c.due(method.getName() + " tells what it throws: " + told, true, told.equals(due));
             boolean isPrivate = Modifier.isPrivate(method.getModifiers());
             c.due(method + " is public or private", true, isPrivate || Modifier.isPublic(method.getModifiers()));
             c.due(method + " bears a name of its own", false, isPrivate && names.contains(method.getName()));
